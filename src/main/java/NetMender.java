@@ -362,7 +362,7 @@ public final class NetMender {
         int best = -1;
         int fewest = THREADS + 1;
         for (int t = 0; t < THREADS; t++) {
-            int left = Integer.bitCount(ahead.missing & ~(1 << t) | renewed.missing & 1 << t);
+            int left = Integer.bitCount((ahead.missing & ~(1 << t)) | (renewed.missing & (1 << t)));
             if (!now.net.isMissing(t) && left < fewest) {
                 best = t;
                 fewest = left;
@@ -1343,7 +1343,7 @@ public final class NetMender {
                 sizes[i] = Integer.bitCount(Grid.holeAt(missing, i));
                 rows *= MEN;
             }
-            least = Integer.MAX_VALUE;
+            least = THREADS * MOST_SPEED + 1;
             for (int row = 0; row < rows; row++) {
                 int rest = row;
                 for (int i = n - 1; i >= 0; i--) {
@@ -1486,7 +1486,7 @@ public final class NetMender {
         }
 
         void write(int i, int v) {
-            numbers[i] = bits == 32 ? v : v & (1 << bits) - 1;
+            numbers[i] = bits == 32 ? v : v & ((1 << bits) - 1);
         }
 
         /** Compared this way round, no sum of two ints can wrap. */

@@ -213,6 +213,10 @@ public final class PromiseTest {
         x.days(1);
         due("knotIs", 5, 1, 4);
         due("knotIs", 14, 5, 4);
+        x.tie(9, 19, 0);
+        due("knotIs", 14, 9, 4);
+        x.days(1);
+        due("knotIs", 13, 9, 4);
     }
 
     private static void as() {
@@ -392,6 +396,13 @@ public final class PromiseTest {
         worth("5&0", 0);
         worth("0|6", 1);
         worth("0|0", 0);
+        worth("(0|0)+5", 5);
+        worth("(0|7)+5", 6);
+        worth("(0&7)+5", 5);
+        worth("(8&7)+5", 6);
+        worth("(2<1)+5", 5);
+        worth("(2=1)+5", 5);
+        worth("(1>2)+5", 5);
         worth("7|0&0", 1);
         worth("0&0|7", 1);
         worth("0&(0|7)", 0);
@@ -510,10 +521,18 @@ public final class PromiseTest {
         x.tie(7, 41, 3);
         x.tie(10, 52, 3);
         x.days(1);
-        // 4 and 5 are neighbours in number alone.
-        cutThreads(3, 20);
+        // 4 and 5 are neighbours in number alone, even while all around them is MISSING.
+        cutThreads(3, 20, 4, 16, 21);
         row(1, 16, 9, 4, 5);
         due("run", -12, 1, 0);
+        row(1, 16, 4, 9, 10, 5);
+        due("run", -12, 1, 0);
+        row(1, 16, 5, 0);
+        due("run", 1, 1, 0);
+        row(1, 16, 6, 5, 10);
+        due("run", 2, 1, 0);
+        // 0 and 5 take 3 ells each, and 10, a GRANNY, 4.
+        due("twine", 90, 100);
         // All goes up to the sixth number: the THREAD from 1 to 2 is mended by then.
         row(1, 16, 6, 1, 2, 1);
         due("run", -13, 1, 1);
@@ -539,7 +558,6 @@ public final class PromiseTest {
         due("knotIs", 1, 1, 2);
         due("knotIs", 4, 1, 3);
         due("knotIs", 0, 0, 2);
-        due("knotIs", 0, 0, 3);
         due("knotIs", 1, 6, 2);
         // A wrong place is told ahead of what is lacking of TWINE.
         row(1, 16, 2, 7);
@@ -561,6 +579,18 @@ public final class PromiseTest {
         due("run", 1, 1, 0);
         due("told", 2, 2);
         due("told", 2, 4);
+        // A RUN ends with its last number.
+        begin(13);
+        cutThreads(0, 1);
+        x.days(5);
+        row(0, 8, 2, 1);
+        due("run", 1, 0, 3);
+        due("knotIs", 0, 2, 2);
+        due("knotIs", 0, 2, 3);
+        due("knotIs", 3, 1, 2);
+        due("knotIs", 5, 1, 3);
+        due("threadIs", 0, 0, 0);
+        due("threadIs", 1, 1, 0);
     }
 
     private static void odd() {
@@ -623,7 +653,13 @@ public final class PromiseTest {
         due("count", 2, 1);
         cutThreads(29);
         due("cuts", NONE, -1);
-        // A cross hangs together, but has four ends: the two to the left above are joined by 0 16.
+        // A fork from 1 hangs together, but has four ends, no two of them one THREAD apart.
+        begin(15);
+        cutThreads(0, 1, 17);
+        due("cuts", 2, -1);
+        due("cuts", 4, 0);
+        due("cuts", 16, 1);
+        // So has a cross: the two to the left above are joined by 0 16.
         begin(15);
         cutThreads(4, 5, 17, 22);
         due("cuts", 2, -1);
@@ -644,6 +680,19 @@ public final class PromiseTest {
         due("way", NONE, 3);
         due("way", NONE, Integer.MAX_VALUE);
         due("way", BEYOND, Integer.MIN_VALUE);
+        begin(16);
+        cutThreads(0);
+        due("way", 0, 0);
+        due("way", 1, 1);
+        due("way", NONE, 2);
+        // A ring begins at its least KNOT, and goes to the less of two.
+        begin(16);
+        cutThreads(5, 9, 22, 23);
+        int[] ring = {6, 7, 12, 11, 6};
+        for (int i = 0; i < ring.length; i++) {
+            due("way", ring[i], i);
+        }
+        due("way", NONE, 5);
         // Squares 0 1 6 5 and 6 7 12 11: at 6 it may not go home to 0 first.
         begin(16);
         cutThreads(0, 4, 16, 17, 5, 9, 22, 23);
@@ -683,6 +732,8 @@ public final class PromiseTest {
         due("hole", 5, 0);
         due("hole", 2, 1);
         due("hole", 1, 2);
+        cutThreads(0, 16);
+        due("hole", 7, 0);
     }
 
     private static void open() {
@@ -746,6 +797,19 @@ public final class PromiseTest {
         due("minutes", FULL, 6);
         due("minutes", NONE, 7);
         due("minutes", BEYOND, -2);
+        // The longest that there is.
+        begin(19);
+        for (int t = 0; t < 31; t++) {
+            x.cut(t);
+        }
+        for (int man = 0; man < 3; man++) {
+            x.speed(man, 30);
+        }
+        due("minutes", 930, -1);
+        due("minutes", 0, 0);
+        x.speed(2, 29);
+        due("minutes", 899, -1);
+        due("minutes", 2, 0);
     }
 
     private static void days() {
@@ -899,6 +963,9 @@ public final class PromiseTest {
         due("goes", BEYOND, 1, -1);
         due("goes", BEYOND, 1, 2);
         due("count", 0, 0);
+        x.wear(30, 49);
+        due("goes", 30, 1, 0);
+        due("goes", 1, 1, 1);
         x.days(60);
         due("goes", NONE, 60, 0);
     }
@@ -1215,14 +1282,21 @@ public final class PromiseTest {
         feedText("t+");
         x.tell(1);
         x.tell(8);
-        row(0, 8, 1, 2);
+        x.cut(0);
+        row(0, 8, 1, 0);
+        x.run(0, 0);
+        x.twine(70);
         x.voice(0, 0, 0);
         promise = 35;
         due("image", 1);
         promise = 36;
         x.tie(3, 0, 0);
         x.tie(6, 0, 0);
-        x.days(60);
+        x.days(9);
+        x.cut(0);
+        row(0, 8, 1, 0);
+        x.run(0, 1);
+        x.days(51);
         x.twine(0);
         x.speed(1, 30);
         x.speed(0, 30);
@@ -1235,6 +1309,8 @@ public final class PromiseTest {
         row(0, 8, 7, 7);
         x.sheet(1, 32, 1);
         x.voice(0, 1, 0);
+        x.text(0);
+        x.feed('h', 1);
         due("told", 0, 1);
         x.cut(99);
         for (int twice = 0; twice < 2; twice++) {
@@ -1247,6 +1323,9 @@ public final class PromiseTest {
             due("knotIs", 3, 6, 4);
             due("threadIs", 0, 4, 0);
             due("threadIs", 8, 5, 1);
+            due("threadIs", 2, 0, 2);
+            due("threadIs", 0, 1, 2);
+            due("then", 2, 7, 0, 2);
             due("count", 2, 0);
             due("count", 1, 1);
             due("count", 70, 3);

@@ -37,6 +37,9 @@ public final class RunsTest {
         int most = 20 + draw.nextInt(MOST_CALLS - 20);
         int wild = draw.nextInt(4) == 0 ? 30 : 4;
         int pace = draw.nextInt(3);
+        if (draw.nextInt(3) == 0) {
+            rings();
+        }
         while (calls < most && !failed) {
             act(wild, pace);
         }
@@ -297,6 +300,40 @@ public final class RunsTest {
         ask("cuts", -1);
         ask("way", draw.nextInt(n + 1));
         ask("open");
+    }
+
+    /** The edges of some MESHES, each edge that two of them share left WHOLE, and now and then a tail. */
+    private void rings() {
+        long threads = 0;
+        int meshes = 1 + draw.nextInt(6);
+        for (int i = 0; i < meshes; i++) {
+            int row = draw.nextInt(3);
+            int column = draw.nextInt(4);
+            int above = 4 * row + column;
+            int left = 16 + 5 * row + column;
+            threads ^= 1L << above | 1L << (above + 4) | 1L << left | 1L << (left + 1);
+        }
+        if (draw.nextInt(3) == 0) {
+            threads ^= 1L << draw.nextInt(31);
+        }
+        for (int t = 0; t < 31; t++) {
+            if ((threads >>> t & 1) != 0) {
+                ask("cut", t);
+            }
+        }
+        ask("odd", 0);
+        ask("odd", 1);
+        for (int i = -1; i < 3; i++) {
+            ask("cuts", i);
+        }
+        for (int i = 0; i <= Long.bitCount(threads) + 1; i++) {
+            ask("way", i);
+        }
+        ask("minutes", -1);
+        ask("open");
+        if (draw.nextInt(2) == 0) {
+            walk();
+        }
     }
 
     private void judgeRight() {
