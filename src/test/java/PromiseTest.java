@@ -889,7 +889,7 @@ public final class PromiseTest {
         due("draws", BEYOND, 0);
         due("draws", BEYOND, 61);
         due("draws", BEYOND, Integer.MIN_VALUE);
-        // z is 1103527590 then; by 256 it is 4310654, its rest by 31 is 1.
+        // z is 1103527590 then; by 256 it is 4310654, its rest by 31 is 11.
         due("draws", 1, 1);
         due("count", 1103527590, 8);
         due("threadIs", 0, 4310654 % 31, 0);
