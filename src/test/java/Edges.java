@@ -184,9 +184,13 @@ final class Edges {
         long[] v = new long[words.length];
         for (int i = 0; i < v.length; i++) {
             v[i] = words[i].equals("MIN") ? Integer.MIN_VALUE
-                    : words[i].equals("MAX") ? Integer.MAX_VALUE : Long.decode(words[i]);
+                    : words[i].equals("MAX") ? Integer.MAX_VALUE : number(words[i]);
         }
         return v;
+    }
+
+    private static long number(String word) {
+        return word.startsWith("0x") ? Long.parseLong(word.substring(2), 16) : Long.parseLong(word);
     }
 
     private static int errorOf(String due) {
@@ -211,7 +215,7 @@ final class Edges {
             return;
         }
         boolean fine = due.equals("FINE");
-        long want = fine ? Math.max(got, LOW) : error == 0 ? Long.decode(due) : LOW - error;
+        long want = fine ? Math.max(got, LOW) : error == 0 ? number(due) : LOW - error;
         if (got != want) {
             StringBuilder told = new StringBuilder(call).append('(');
             for (int i = 0; i < v.length; i++) {

@@ -171,8 +171,19 @@ public final class PromiseEdgesTest {
         e.edge(11, fault, "tie(0, 60, 0)", "TAPE 7", "text(0)", "TAPE 8+", "text(0) -> -12", "count(5) -> 0",
                 "knotIs(0, 4) -> 7", "TAPE 9)", "text(0) -> -11", "knotIs(0, 4) -> 7", "text(0) -> -10",
                 "knotIs(0, 4) -> 7", "untell(0) -> 1", "1..6: told(#) -> 0");
+        textBehindFault("(((", "7)", -11);
+        textBehindFault("(((((", "(((((7)))))", 1);
+        textBehindFault("!!!!!", "!!!!!7", 1);
+        textBehindFault("5<", "1<2", 1);
+        textBehindFault("5+", "1<2<3", -13);
         e.edge(11, fault, "TAPE 7", "text(1)", "TAPE m", "text(1) -> -10", "count(5) -> 0", "days(1)",
                 "threadIs(0, 1) -> 7");
+    }
+
+    /** What a FAULT has left unread says nothing of the TEXT behind it. */
+    private static void textBehindFault(String faulty, String text, int answer) {
+        e.edge(11, "-10 less the FAULT (no ERROR; the one ahead stays; THE TAPE is empty, too).", "TAPE " + faulty,
+                "text(0) -> " + (-10 - faulty.length()), "TAPE " + text, "text(0) -> " + answer);
     }
 
     private static void untell() {
@@ -425,8 +436,11 @@ public final class PromiseEdgesTest {
     private static void cutAll() {
         String sentence = "Numbers of a SHEET are THREADS that are cut: how many, up to the first that cut() would refuse (no ERROR then). BEYOND. NONE.";
         e.bounds(33, sentence, "cutAll(@)", 0, 3, "ROW 0 8 0", "ROW 3 8 1");
-        e.edge(33, sentence, "0..3: cutAll(#) -> NONE", "sheet(0, 8, 0)", "cutAll(0) -> 0", "sheet(0, 0, 0)",
-                "cutAll(0) -> NONE");
+        e.edge(33, sentence, "0..3: cutAll(#) -> NONE", "sheet(0, 8, 0)", "cutAll(0) -> 0", "count(1) -> 0",
+                "sheet(0, 0, 0)", "cutAll(0) -> NONE");
+        e.edge(33, sentence, "ROW 0 8 5 6", "cutAll(0) -> 2", "count(1) -> 2");
+        e.edge(33, sentence, "sheet(0, 8, 40)", "1..30: put(0, #, #)", "cutAll(0) -> 31", "count(1) -> 31",
+                "1..6: told(#) -> 0");
         e.edge(33, sentence, "ROW 0 8 0 30 15", "cutAll(0) -> 3", "count(1) -> 3", "threadIs(0, 0) -> 0",
                 "threadIs(30, 0) -> 0", "threadIs(15, 0) -> 0");
         String first = "up to the first that cut() would refuse (no ERROR then)";
@@ -469,10 +483,14 @@ public final class PromiseEdgesTest {
         e.edge(35, sentence, "image()", "TAPE 7", "text(0)", "TAPE 6", "text(1)", "restore()", "untell(0) -> 0", "untell(1) -> 0");
         e.edge(35, sentence, "TAPE m+", "image()", "TAPE 1)))", "restore()", "count(5) -> 2", "TAPE 4", "text(0) -> 1",
                 "tie(0, 63, 0)", "knotIs(0, 4) -> 7");
+        e.edge(35, sentence, "TAPE m+", "image()", "text(0) -> -12", "TAPE 99999", "restore()", "count(5) -> 2", "TAPE 4",
+                "text(0) -> 1", "tie(0, 63, 0)", "knotIs(0, 4) -> 7");
         e.edge(35, sentence, "tell(0)", "tell(5)", "image()", "check() -> 2", "1..3: tell(9)", "restore()", "count(6) -> 2",
                 "check() -> 2");
         e.edge(35, "but SHEETS", "ROW 0 8 0 0", "image()", "ROW 1 8 0 0 0", "sheet(0, 0, 0)", "restore()", "judge(0) -> NONE",
                 "judge(1) -> 3");
+        e.edge(35, "but SHEETS", "image()", "ROW 0 8 0", "ROW 1 16 0 0", "ROW 2 32 0 0 0", "ROW 3 8 0 0 0 0", "restore()",
+                "0..3: judge(#) -> 1 2 3 4");
         e.edge(35, "THE TRACE", "voice(0, 2, 1)", "image()", "voice(0, 1, 1)", "restore()", "count(7) -> 2",
                 "0..2: body(#) -> 11 10 NONE");
         e.edge(35, "what told() tells", "cut(31) -> BEYOND", "image()", "cut(31) -> BEYOND", "restore()", "told(1) -> 2",

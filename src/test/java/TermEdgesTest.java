@@ -568,7 +568,7 @@ public final class TermEdgesTest {
         e.edge(19, takes, "CUT 0 1 2", "minutes(-1) -> 15", "minutes(0) -> 0", "speed(1, 4)", "minutes(-1) -> 12",
                 "minutes(0) -> 1", "speed(2, 1)", "minutes(-1) -> 3", "minutes(0) -> 2");
         e.edge(19, takes, "0..30: cut(#)", "0..2: speed(#, 30)", "minutes(-1) -> 930", "minutes(0) -> 0", "speed(2, 29)",
-                "minutes(-1) -> 899", "minutes(0) -> 2");
+                "minutes(-1) -> 899", "minutes(0) -> 2", "speed(2, 30)", "minutes(-1) -> 930", "minutes(0) -> 0");
         String least = "LEAST MINUTES: the least by which all HOLES are mended, each man one behind the other";
         e.edge(19, least, "minutes(-1) -> 0");
         e.edge(19, least, "CUT 0 2", "speed(1, 30)", "speed(2, 30)", "minutes(-1) -> 10", "0..1: minutes(#) -> 0");
@@ -680,8 +680,8 @@ public final class TermEdgesTest {
         String parted = "PARTED if that is 0; that is all that voice() answers then";
         e.edge(28, parted, "tie(7, 7, 0)", "voice(7, 3, 9) -> PARTED", "count(7) -> 1", "body(0) -> 13", "tie(7, 6, 0)",
                 "voice(7, 3, 9) -> -9", "tie(7, 8, 0)", "voice(7, 3, 9) -> 9");
-        e.edge(28, parted, "0..6: tie(7, #7, 0)", "tie(7, 17, 0)", "voice(7, 3, 9) -> PARTED", "0..1: body(#) -> 21 13",
-                "tie(7, 47, 0)", "voice(7, 3, 9) -> PARTED", "0..1: body(#) -> 21 13", "tie(7, 67, 0)",
+        e.edge(28, parted, "tie(7, 17, 0)", "voice(7, 3, 9) -> PARTED", "0..2: body(#) -> 21 13 NONE",
+                "tie(7, 47, 0)", "voice(7, 3, 9) -> PARTED", "0..2: body(#) -> 21 13 NONE", "tie(7, 67, 0)",
                 "voice(7, 3, 9) -> PARTED", "voice(7, 2, 9) -> 8", "told(6) -> 3");
     }
 
@@ -693,6 +693,11 @@ public final class TermEdgesTest {
                 "voice(7, 0, MIN) -> 2147483647");
         e.edge(28, wrap, "tie(0, 55, 0)", "voice(0, 1, MAX) -> 0", "tie(0, 45, 0)", "voice(0, 0, MIN) -> 2147483624");
         String above = "holds(..) is the BODY of its KIND, or of the next KIND above that has one";
+        String[] said = {"107 214 209 -50", "99 198 193 -50", "107 -214 -219 -50", "107 214 109 -50", "297 594 586 -50",
+            "107 -216 -221 -50", "4 13 8 -50"};
+        for (int kind = 0; kind < said.length; kind++) {
+            e.edge(28, above, "tie(7, " + kind + "5, 0)", "0..3: voice(7, #, 100) -> " + said[kind]);
+        }
         body(above, 25, "voice(7, 0, 100) -> 107", "10");
         body(above, 45, "voice(7, 1, 100) -> 594", "11 50 20 10");
         body(above, 15, "voice(7, 2, 100) -> 193", "12 11 20 10");
