@@ -21,7 +21,8 @@ import java.util.List;
  * </pre>
  *
  * <p>Every edge is played twice: a twin is spared the calls that are refused, and must look the same at the end, as
- * "one that answers an ERROR changes nothing but what told() tells".
+ * "one that answers an ERROR changes nothing but what told() tells". An edge that leaves no calls for the look at the end
+ * (512 is the most) goes without it.
  */
 final class Edges {
     private static final long LOW = -1000000000L;
