@@ -32,6 +32,8 @@ final class Edges {
     private static final int LOOK_CALLS = 300;
 
     private final String document;
+    private final List<String> sentences = new ArrayList<>();
+    private final List<Integer> promises = new ArrayList<>();
     private int asked = 0;
     private int wrong = 0;
 
@@ -48,7 +50,7 @@ final class Edges {
         document = Files.isRegularFile(path) ? squeezed(Files.readString(path)) : null;
     }
 
-    private static String squeezed(String text) {
+    static String squeezed(String text) {
         return text.replaceAll("\\s+", " ");
     }
 
@@ -61,6 +63,8 @@ final class Edges {
         refused = new int[ERRORS.length];
         failed = false;
         asked++;
+        promises.add(promise);
+        sentences.add(squeezed(sentence));
         if (promise < 1 || promise > 40) {
             fail("there is no such promise");
         }
@@ -98,6 +102,15 @@ final class Edges {
         rows.add(call.replace("@", String.valueOf(least)) + " -> FINE");
         rows.add(call.replace("@", String.valueOf(most)) + " -> FINE");
         edge(promise, sentence, rows.toArray(new String[0]));
+    }
+
+    /** What the edges up to now have quoted, and of which promises, one for one. */
+    List<String> sentences() {
+        return sentences;
+    }
+
+    List<Integer> promises() {
+        return promises;
     }
 
     /** Tells how it went, and ends the program if something is wrong. */

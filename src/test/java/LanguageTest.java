@@ -1,12 +1,16 @@
+import java.lang.reflect.Array;
 import java.lang.reflect.Constructor;
 import java.lang.reflect.Field;
 import java.lang.reflect.Method;
 import java.lang.reflect.Modifier;
+import java.nio.charset.StandardCharsets;
 import java.nio.file.Files;
 import java.nio.file.Path;
 import java.util.ArrayList;
+import java.util.Arrays;
 import java.util.HashSet;
 import java.util.List;
+import java.util.Random;
 import java.util.Set;
 import java.util.TreeSet;
 import java.util.regex.Matcher;
@@ -28,6 +32,11 @@ public final class LanguageTest {
     private static final int MOST_PARAMETERS = 7;
     private static final int MOST_CLASSES = 12;
     private static final int MOST_FIELDS = 20;
+    private static final int MANY_CALLS = 300000;
+    private static final int CALLS_OF_ONE = 3000;
+    /** A room holds some 600,000 objects and 7.3 million fields and elements: a thousand nets are far below. */
+    private static final int MOST_OBJECTS = 200;
+    private static final int MOST_ELEMENTS = 5000;
 
     private static int wrong = 0;
 
@@ -41,6 +50,8 @@ public final class LanguageTest {
         words(source);
         newOnlyWhenMade(source);
         methodLengths(source);
+        neverThrows();
+        room();
         System.out.println(wrong == 0 ? "the rules are kept" : wrong + " rules are broken");
         if (wrong != 0) {
             System.exit(1);
@@ -141,6 +152,67 @@ public final class LanguageTest {
             boolean sheet = line.trim().equals("sheets[i] = new Sheet();");
             due(field || sheet || !line.matches(".*\\bnew\\b.*"), "12: an object is made by " + line.trim());
         }
+    }
+
+    /** Rule 7: whatever is asked for, in whatever state, and behind the 512th call, too. */
+    private static void neverThrows() {
+        Random draw = new Random(7);
+        int[] wild = {Integer.MIN_VALUE, Integer.MIN_VALUE + 1, -1000000001, -60, -1, 0, 1, 2, 3, 4, 5, 7, 8, 9, 15, 16, 17,
+            19, 20, 24, 30, 31, 32, 33, 40, 41, 60, 61, 63, 69, 99, 100, 255, 9999, 1 << 16, Integer.MAX_VALUE};
+        byte[] signs = "mdhtwa0123456789+-*/%<=>|&!()".getBytes(StandardCharsets.US_ASCII);
+        NetMender x = new NetMender();
+        String call = "feed";
+        for (int i = 0; i < MANY_CALLS; i++) {
+            if (i % CALLS_OF_ONE == 0) {
+                x = new NetMender();
+            }
+            // Some calls in a row, as what is kept must be full at times.
+            if (draw.nextInt(8) == 0) {
+                call = Calls.FACE[draw.nextInt(Calls.FACE.length)].split(" ")[0];
+            }
+            long[] v = new long[5];
+            for (int k = 0; k < v.length; k++) {
+                v[k] = draw.nextBoolean() ? wild[draw.nextInt(wild.length)] : draw.nextInt(4);
+            }
+            if (call.equals("feed")) {
+                v[0] = signs[draw.nextInt(signs.length)] << 8 | signs[draw.nextInt(signs.length)];
+            }
+            try {
+                Calls.make(x, call, v);
+            } catch (RuntimeException | StackOverflowError e) {
+                due(false, "7: " + call + Arrays.toString(v) + " threw " + e);
+            }
+        }
+    }
+
+    /** Rule 12: what a new object holds. As no call makes one, it holds no more later. */
+    private static void room() throws IllegalAccessException {
+        List<Object> held = new ArrayList<>(List.of(new NetMender()));
+        int elements = 0;
+        for (int i = 0; i < held.size(); i++) {
+            Object one = held.get(i);
+            List<Object> parts = new ArrayList<>();
+            if (one.getClass().isArray()) {
+                elements += Array.getLength(one);
+                parts.addAll(one instanceof Object[] row ? List.of(row) : List.of());
+            } else {
+                for (Field f : one.getClass().getDeclaredFields()) {
+                    f.setAccessible(true);
+                    elements += Modifier.isStatic(f.getModifiers()) ? 0 : 1;
+                    if (!f.getType().isPrimitive()) {
+                        parts.add(f.get(one));
+                    }
+                }
+            }
+            for (Object part : parts) {
+                due(part != null, "7: " + one.getClass() + " holds null");
+                if (part != null && held.stream().noneMatch(known -> known == part)) {
+                    held.add(part);
+                }
+            }
+        }
+        due(held.size() > 1 && held.size() <= MOST_OBJECTS, "12: a new object holds " + held.size() + " objects");
+        due(elements > 1 && elements <= MOST_ELEMENTS, "12: a new object holds " + elements + " fields and elements");
     }
 
     private static void methodLengths(String source) {

@@ -4,7 +4,13 @@ public final class PromiseEdgesTest {
     private static Edges e;
 
     public static void main(String[] args) throws Exception {
-        e = new Edges(args.length > 0 ? args[0] : ".");
+        Edges edges = new Edges(args.length > 0 ? args[0] : ".");
+        play(edges);
+        edges.end();
+    }
+
+    static void play(Edges edges) {
+        e = edges;
         aNewObject();
         tie();
         knotIs();
@@ -45,7 +51,6 @@ public final class PromiseEdgesTest {
         check();
         count();
         told();
-        e.end();
     }
 
     private static void aNewObject() {
@@ -200,6 +205,7 @@ public final class PromiseEdgesTest {
         String goes = "A RUN told by a SHEET (KNOT by KNOT) is mended by a HAND: how many steps, if it goes";
         e.bounds(13, goes, "run(@, 0)", 0, 3, "ROW 0 8 0", "ROW 3 8 0");
         e.bounds(13, goes, "run(0, @)", 0, 4, "ROW 0 8 0");
+        e.bounds(13, "no ERROR). BEYOND. NONE: the SHEET is missing, or empty.", "run(2, @)", 0, 4, "ROW 2 8 0");
         e.edge(13, goes, "ROW 0 8 19", "run(0, 4) -> 0", "knotIs(19, 2) -> 0", "count(3) -> 100");
         e.edge(13, goes, "CUT 0 1", "ROW 0 16 0 1 2", "run(0, 4) -> 2", "count(1) -> 0", "count(3) -> 94");
         // What is MISSING beside the RUN stays so.

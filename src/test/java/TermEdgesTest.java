@@ -5,7 +5,13 @@ public final class TermEdgesTest {
     private static Edges e;
 
     public static void main(String[] args) throws Exception {
-        e = new Edges(args.length > 0 ? args[0] : ".");
+        Edges edges = new Edges(args.length > 0 ? args[0] : ".");
+        play(edges);
+        edges.end();
+    }
+
+    static void play(Edges edges) {
+        e = edges;
         errors();
         errorsInOrder();
         errorsChangeNothing();
@@ -36,14 +42,13 @@ public final class TermEdgesTest {
         bodies();
         voices();
         sheets();
-        e.end();
     }
 
     /** 512 calls at most: as many rows as it takes to come to a DAY. */
     private static final String TO_9960 = "1..166: days(60)";
 
     private static void errors() {
-        e.edge(40, "LOW is -1000000000; LOW - 1 BEYOND, LOW - 2 NONE, LOW - 3 STATE, LOW - 4 FULL, LOW - 5 KIND, LOW - 6 PARTED",
+        e.edge(40, "ERRORS are answers below -1000000000: LOW is -1000000000; LOW - 1 BEYOND, LOW - 2 NONE, LOW - 3 STATE, LOW - 4 FULL, LOW - 5 KIND, LOW - 6 PARTED",
                 "cut(31) -> BEYOND", "restore() -> NONE", "cut(0) -> 1", "cut(0) -> STATE", "1..24: tell(0)",
                 "tell(0) -> FULL", "as(0, 1) -> KIND", "voice(5, 3, 0) -> PARTED", "1..6: told(#) -> 1");
         e.edge(27, "LOW - 6 PARTED (in longs, too)", "swimsOut(2) -> BEYOND", "swimsOut(-1) -> BEYOND", "told(1) -> 2");
@@ -111,6 +116,11 @@ public final class TermEdgesTest {
                 "judge(0) -> 2");
         e.edge(32, UNCHANGED, "ROW 0 8 5 6", "ROW 1 8 0 0 0", "move(0, 0, 1, 0, 3) -> BEYOND",
                 "move(0, 0, 1, 2, 2) -> BEYOND", "judge(1) -> 3");
+        e.edge(28, UNCHANGED + ", or where told.", "wear(0, 5)", "tie(7, 7, 3)", "voice(6, 1, 3) -> 18", "voice(7, 3, 9) -> PARTED",
+                "count(7) -> 1", "0..1: body(#) -> 13 NONE", "told(6) -> 1", "0..3: knotIs(7, #) -> 0 7 3 0",
+                "count(4) -> 5");
+        e.edge(40, UNCHANGED + ", or where told.", "told(0) -> BEYOND", "told(1) -> 1", "cut(31) -> BEYOND", "told(1) -> 2",
+                "2..6: told(#) -> 0");
         e.edge(36, UNCHANGED, "CUT 0", "twine(7)", "restore() -> NONE", "count(1) -> 1", "count(3) -> 7");
         e.edge(37, UNCHANGED, "1..24: tell(0)", "tell(5) -> FULL", "count(6) -> 24", "check() -> 0");
     }
@@ -133,6 +143,9 @@ public final class TermEdgesTest {
         e.edge(5, "16 .. 30 along columns (16, 5 times the row of the upper one, and the column: it and the one below)",
                 "16..30: threadIs(#, 4) -> 0 1 2 3 4 5 6 7 8 9 10 11 12 13 14",
                 "16..30: threadIs(#, 5) -> 5 6 7 8 9 10 11 12 13 14 15 16 17 18 19");
+        String whole = "Each THREAD is WHOLE (at first) or MISSING";
+        e.edge(5, whole, "0..30: threadIs(#, 0) -> 1", "CUT 0 30", "threadIs(0, 0) -> 0", "1..29: threadIs(#, 0) -> 1",
+                "threadIs(30, 0) -> 0", "count(1) -> 2");
         e.bounds(7, "WORN (0 .. 99; 0 at first, and as long as it is MISSING)", "wear(30, @)", 0, 99);
         e.edge(6, "0 at first, and as long as it is MISSING", "wear(3, 50)", "cut(3) -> 1", "threadIs(3, 1) -> 0",
                 "days(5)", "threadIs(3, 1) -> 0", "then(5, 3, 1) -> 0");
@@ -489,7 +502,7 @@ public final class TermEdgesTest {
         e.edge(14, odd, "odd(0) -> 0", "cut(0)", "odd(0) -> 2", "cut(1)", "odd(0) -> 2", "cut(17)", "odd(0) -> 4");
         e.edge(14, odd, "CUT 4 5 17 22", "odd(0) -> 4", "knotIs(6, 6) -> 4");
         e.edge(14, odd, "0..30: cut(#)", "odd(0) -> 10");
-        String one = "if it isn't empty, hangs together (by KNOTS), and has 0 or 2 ODD KNOTS";
+        String one = "ONE RUN: a set of MISSING THREADS can be mended in one RUN, if it isn't empty, hangs together (by KNOTS), and has 0 or 2 ODD KNOTS";
         e.edge(14, one, "odd(1) -> 0", "cut(30)", "odd(1) -> 1");
         e.edge(14, one, "CUT 0 4 16 17", "odd(0) -> 0", "odd(1) -> 1");
         e.edge(14, one, "CUT 0 1 2", "odd(0) -> 2", "odd(1) -> 1");
@@ -686,6 +699,10 @@ public final class TermEdgesTest {
     }
 
     private static void voices() {
+        String told = "k is its number, m as told: 0 holds, 1 slips, 2 ties, 3 parts.";
+        e.bounds(28, told, "voice(7, @, 1)", 0, 3);
+        e.edge(28, told, "tie(7, 9, 0)", "0..3: voice(7, #, 100) -> 107 214 205 50", "tie(7, 0, 0)",
+                "0..3: voice(7, #, 100) -> 107 214 214 -14", "tie(8, 9, 0)", "0..3: voice(8, #, 100) -> 108 216 207 100");
         String wrap = "with a number x (ints that wrap)";
         e.edge(28, wrap, "voice(10, 0, MAX) -> -2147483639", "voice(0, 1, 0x40000000) -> -2147483648",
                 "voice(0, 2, 0x40000000) -> 2147483643");
